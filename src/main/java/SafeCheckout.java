@@ -39,7 +39,11 @@ public final class SafeCheckout {
   private int recordedPath;
 
   public SafeCheckout(int paths) {
-    pathCount = paths < MIN_PATHS ? MIN_PATHS : paths > MAX_PATHS ? MAX_PATHS : paths;
+    if (paths < MIN_PATHS) {
+      pathCount = MIN_PATHS;
+    } else {
+      pathCount = paths > MAX_PATHS ? MAX_PATHS : paths;
+    }
     recordedPath = NO_PATH;
   }
 
@@ -277,15 +281,13 @@ public final class SafeCheckout {
 
   private int firstHidingPath() {
     for (int p = 0; p < pathCount; p++) {
-      if (hidesFile(NEXT_INDEX, p) || hidesFile(NEXT_WORK, p)) {
+      boolean inIndex = get(NEXT_INDEX, p) != 0 && hasFileBelow(NEXT_INDEX, p);
+      boolean inWork = get(NEXT_WORK, p) != 0 && hasFileBelow(NEXT_WORK, p);
+      if (inIndex || inWork) {
         return p;
       }
     }
     return NO_PATH;
-  }
-
-  private boolean hidesFile(int t, int p) {
-    return get(t, p) != 0 && hasFileBelow(t, p);
   }
 
   private int planForced() {
