@@ -1,15 +1,24 @@
 /** Counts and prints the answers that are not the ones that are due. */
 final class Due {
   private static int wrong = 0;
+  private static int shown = 0;
+  private static String sentence = "";
 
   private Due() {}
+
+  /** Names the sentence of the document that the next answers belong to. */
+  static void about(String words) {
+    sentence = "[" + words + "] ";
+    shown = 0;
+  }
 
   static void is(String call, long got, long want) {
     if (got != want) {
       wrong++;
-      // A broken class can be wrong in a million rows: the first ones tell enough.
-      if (wrong <= 40) {
-        System.out.println(call + " answered " + got + ", due is " + want);
+      shown++;
+      // A broken class can be wrong in a million rows: the first ones of a sentence tell enough.
+      if (shown <= 20) {
+        System.out.println(sentence + call + " answered " + got + ", due is " + want);
       }
     }
   }
