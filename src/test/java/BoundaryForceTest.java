@@ -1,5 +1,6 @@
 /** Promise 9, a forced switch: each sentence that names a boundary. */
 public final class BoundaryForceTest {
+  // The least and the greatest content, and another one.
   private static final int A = 1;
   private static final int B = 1000;
   private static final int C = 2;
@@ -130,7 +131,8 @@ public final class BoundaryForceTest {
     Due.about("force: an untracked file goes below a file of TARGET");
     for (int p = 4; p < 24; p++) {
       int parent = p / 4 - 1;
-      new Scene(24).work(p, A).target(parent, B).made().switches(true, Scene.rows(parent, B), Scene.rows(parent, B));
+      Scene s = new Scene(24).work(p, A).target(parent, B).made();
+      s.switches(true, Scene.rows(parent, B), Scene.rows(parent, B));
     }
     for (int p = 20; p < 24; p++) {
       new Scene(24).work(p, A).target(0, B).made().switches(true, Scene.rows(0, B), Scene.rows(0, B));
@@ -173,7 +175,7 @@ public final class BoundaryForceTest {
   /** A file of TARGET that is neither above nor below p drives nothing away. */
   private static void besideATargetFile() {
     Due.about("force: a file of TARGET beside p drives nothing away");
-    Scene s = new Scene(24).work(5, A, 21, A, 23, A, 1, A, 19, A).target(4, 0, 6, B, 22, B, 3, 0, 2, B).made();
+    Scene s = new Scene(24).work(5, A, 21, A, 23, A, 1, A, 19, A).target(6, B, 22, B, 2, B).made();
     s.switches(true,
         Scene.rows(6, B, 22, B, 2, B),
         Scene.rows(6, B, 22, B, 2, B, 5, A, 21, A, 23, A, 1, A, 19, A));

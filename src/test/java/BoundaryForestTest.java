@@ -42,7 +42,8 @@ public final class BoundaryForestTest {
     for (int[] family : families) {
       for (int q = family[1]; q <= family[2]; q++) {
         Scene s = new Scene(24).work(q, 1).made();
-        Due.is("file at " + q + ": kind of " + family[0], s.x.kind(Scene.WORK, family[0]), SafeCheckout.KIND_DIR);
+        int kind = s.x.kind(Scene.WORK, family[0]);
+        Due.is("file at " + q + ": kind of " + family[0], kind, SafeCheckout.KIND_DIR);
         s.writes(family[0], 5, false);
       }
     }

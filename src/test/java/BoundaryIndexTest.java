@@ -116,11 +116,14 @@ public final class BoundaryIndexTest {
   /** "every proper ancestor and every proper descendant of p": no other path */
   private static void stageClearsNothingBeside() {
     Due.about("stage: a file that is neither above nor below p stays in INDEX");
-    Scene s = new Scene(24).index(5, 1, 7, 2, 20, 3, 23, 4, 8, 5, 2, 6, 19, 7).work(22, 8, 6, 9, 1, 10).made();
+    Scene s = new Scene(24)
+        .index(5, 1, 7, 2, 20, 3, 23, 4, 8, 5, 2, 6, 19, 7)
+        .work(22, 8, 6, 9, 1, 10)
+        .made();
     s.stages(22, 8);
     s.stages(6, 9);
     s.stages(1, 10, 8);
-    // A clear of INDEX is none of WORK: the file above p is gone there already, the one below never was.
+    // What is staged one after the other stands side by side.
     Scene same = new Scene(24).index(0, 1).work(20, 2, 21, 3).made();
     same.stages(20, 2, 0);
     same.stages(21, 3);

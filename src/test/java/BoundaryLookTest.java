@@ -4,9 +4,13 @@ public final class BoundaryLookTest {
   private static final int DIR = SafeCheckout.KIND_DIR;
   private static final int ABSENT = SafeCheckout.KIND_ABSENT;
 
+  private static final int[] TREES_TOO_SMALL = {
+    -1, -2, -4, Integer.MIN_VALUE, Integer.MIN_VALUE + 1
+  };
   // 1 << 29 times 24 wraps around to 0: a tree number that must not be taken for tree 0.
-  private static final int[] TREES_TOO_SMALL = {-1, -2, -4, Integer.MIN_VALUE, Integer.MIN_VALUE + 1};
-  private static final int[] TREES_TOO_LARGE = {4, 5, 6, 7, 8, 24, 1 << 29, Integer.MAX_VALUE - 1, Integer.MAX_VALUE};
+  private static final int[] TREES_TOO_LARGE = {
+    4, 5, 6, 7, 8, 24, 1 << 29, Integer.MAX_VALUE - 1, Integer.MAX_VALUE
+  };
 
   public static void main(String[] args) {
     entryOfEveryTree();

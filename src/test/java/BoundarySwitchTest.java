@@ -5,7 +5,7 @@ public final class BoundarySwitchTest {
   private static final int UNTRACKED = SafeCheckout.REFUSED_UNTRACKED;
   private static final int HIDDEN = SafeCheckout.REFUSED_HIDDEN;
 
-  // What a clean or carried path can hold at most and at least, beside no file.
+  // The least and the greatest content, and the ones next to them.
   private static final int A = 1;
   private static final int B = 1000;
   private static final int C = 2;

@@ -22,7 +22,12 @@ final class Scene {
 
   /** Every tree holds files, no two trees are the same, and every tree has free paths. */
   static Scene mixed(int paths) {
-    return new Scene(paths).head(1, 11, 5, 12).index(1, 13, 6, 14).work(2, 15, 7, 16).target(3, 17, 4, 18).made();
+    return new Scene(paths)
+        .head(1, 11, 5, 12)
+        .index(1, 13, 6, 14)
+        .work(2, 15, 7, 16)
+        .target(3, 17, 4, 18)
+        .made();
   }
 
   /** The values that are no path for being too small. */
@@ -32,7 +37,9 @@ final class Scene {
 
   /** The values that are no path of N paths for being too large. */
   static int[] pathsTooLarge(int paths) {
-    return new int[] {paths, paths + 1, 24, 25, 48, 144, 1 << 29, Integer.MAX_VALUE - 1, Integer.MAX_VALUE};
+    return new int[] {
+      paths, paths + 1, 24, 25, 48, 144, 1 << 29, Integer.MAX_VALUE - 1, Integer.MAX_VALUE
+    };
   }
 
   static int[] rows(int... rows) {
